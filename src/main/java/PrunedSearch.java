@@ -1076,7 +1076,8 @@ public final class PrunedSearch {
         private boolean isLarge() {
             int left = LARGEST_BRANCH;
             int goal = branch.first();
-            while (left >= 0 && goal != NOTHING) {
+            // Every goal has a symbol at least, so that more goals than that are too many.
+            for (int k = 0; k <= LARGEST_BRANCH && left >= 0 && goal != NOTHING; k++) {
                 left -= terms.countSymbols(branch.termOf(goal), left);
                 goal = branch.after(goal);
             }

@@ -1,0 +1,122 @@
+import java.nio.charset.StandardCharsets;
+
+/** Compares answers with those that are due, for the tests of this project. */
+final class Due {
+    private int checks = 0;
+    private int wrong = 0;
+
+    void same(String what, long got, long want) {
+        checks++;
+        if (got != want) {
+            wrong++;
+            System.out.println(what + " answered " + got + ", due is " + want);
+        }
+    }
+
+    void same(String what, String got, String want) {
+        checks++;
+        if (!got.equals(want)) {
+            wrong++;
+            System.out.println(what + " answered \"" + got + "\", due is \"" + want + "\"");
+        }
+    }
+
+    void holds(String what, boolean got) {
+        same(what, got ? 1 : 0, 1);
+    }
+
+    void fails(String what, boolean got) {
+        same(what, got ? 1 : 0, 0);
+    }
+
+    /** tries, choices, length and goals at once. */
+    void counts(String what, PrunedSearch x, int tries, int choices, int length, int goals) {
+        same(what + ": tries()", x.tries(), tries);
+        same(what + ": choices()", x.choices(), choices);
+        same(what + ": length()", x.length(), length);
+        same(what + ": goals()", x.goals(), goals);
+    }
+
+    void finish() {
+        System.out.println(checks + " checks, " + wrong + " wrong");
+        if (wrong != 0 || checks == 0) {
+            System.exit(1);
+        }
+    }
+
+    /** A row for type: the first eight characters from the place on. */
+    static long row(String text, int from) {
+        long row = 0;
+        byte[] bytes = text.getBytes(StandardCharsets.ISO_8859_1);
+        for (int k = 0; k < 8 && from + k < bytes.length; k++) {
+            row |= (bytes[from + k] & 255L) << 8 * k;
+        }
+        return row;
+    }
+
+    /** Types the text; whether every row of it was taken. */
+    static boolean typed(PrunedSearch x, String text) {
+        boolean all = true;
+        for (int from = 0; from < text.length(); from += 8) {
+            all &= x.type(row(text, from));
+        }
+        return all;
+    }
+
+    static int consulted(PrunedSearch x, String text) {
+        if (!typed(x, text)) {
+            throw new IllegalArgumentException("not taken: " + text);
+        }
+        return x.consult();
+    }
+
+    static int asked(PrunedSearch x, String text) {
+        if (!typed(x, text)) {
+            throw new IllegalArgumentException("not taken: " + text);
+        }
+        return x.ask();
+    }
+
+    /** A new object with these clauses. */
+    static PrunedSearch with(String clauses) {
+        PrunedSearch x = new PrunedSearch();
+        if (consulted(x, clauses) < 0) {
+            throw new IllegalArgumentException("not read: " + clauses);
+        }
+        return x;
+    }
+
+    /** A new object with these clauses, and a search for this question. */
+    static PrunedSearch search(String clauses, String question) {
+        PrunedSearch x = with(clauses);
+        if (asked(x, question) < 0) {
+            throw new IllegalArgumentException("not read: " + question);
+        }
+        return x;
+    }
+
+    /** The text for VARIABLE v. */
+    static String text(PrunedSearch x, int v) {
+        StringBuilder text = new StringBuilder();
+        for (int i = 0; x.answer(v, i) != 0; i++) {
+            text.append(x.answer(v, i));
+        }
+        return text.toString();
+    }
+
+    /** All answers of the search, as the texts of its first VARIABLES, up to its end. */
+    static String answers(PrunedSearch x, int variables) {
+        StringBuilder all = new StringBuilder();
+        int end = x.run(100);
+        for (int k = 0; k < 100 && (end == 1 || end == 2); k++) {
+            if (end == 1) {
+                for (int v = 0; v < variables; v++) {
+                    all.append(text(x, v)).append(' ');
+                }
+                all.append("; ");
+            }
+            end = x.run(100);
+        }
+        return all.append(end).toString();
+    }
+}
