@@ -548,7 +548,7 @@ public final class PrunedSearch {
         }
 
         private boolean enter() {
-            if (open == MOST_OPEN) {
+            if (open >= MOST_OPEN) {
                 return false;
             }
             open++;
@@ -959,8 +959,8 @@ public final class PrunedSearch {
             writer.clear();
         }
 
+        /** Begins a search where there is none. */
         void begin(Code question, int variables) {
-            end();
             terms.copy(question, 0);
             branch.putBefore(terms, 0, terms.cellCount(), 0);
             askedCount = Math.min(variables, MOST_VARIABLES);
@@ -1241,6 +1241,7 @@ public final class PrunedSearch {
             }
         }
 
+        /** Two digits do: in 120 symbols, names of 4 arguments leave room for 92 variables at most. */
         private void writeVariable(int cell) {
             int number = 0;
             while (number < freeCount && free[number] != cell) {
@@ -1251,11 +1252,8 @@ public final class PrunedSearch {
                 freeCount++;
             }
             put('_');
-            if (number >= 100) {
-                put((char) ('0' + number / 100));
-            }
             if (number >= 10) {
-                put((char) ('0' + number / 10 % 10));
+                put((char) ('0' + number / 10));
             }
             put((char) ('0' + number % 10));
         }

@@ -102,6 +102,18 @@ final class AnswerTest {
         due.same("run", x.run(9), 1);
         due.same("variables past 9", Due.text(x, 0), "[_0,_1,_2,_3,_4,_5,_6,_7,_8,_9,_10,_11]");
         due.same("numbered by the first text", Due.text(x, 4), "_6");
+        PrunedSearch most = Due.search("f(X):-t(X). t(g(_,_,_,_)).", "f(A),f(B),f(C),f(D),f(E),f(F),f(G),f(H).");
+        due.same("run", most.run(100), 1);
+        due.same("32 variables", Due.text(most, 7), "g(_28,_29,_30,_31)");
+        String four = "g(A,B,C,D)";
+        PrunedSearch full = Due.with("s(" + four + "):-t(A),t(B),t(C),t(D). t(" + four + "):-u(A),u(B),u(C),u(D). u(g(_,_,_,_)). u(_).");
+        Due.asked(full, "s(X).");
+        due.same("run", full.run(100), 1);
+        StringBuilder want = new StringBuilder();
+        for (int k = 0; k < 64; k++) {
+            want.append(k == 0 ? "g(g(g(" : k % 16 == 0 ? ")),g(g(" : k % 4 == 0 ? "),g(" : ",").append("_").append(k);
+        }
+        due.same("85 symbols, 64 variables", Due.text(full, 0), want.append(")))").toString());
         PrunedSearch y = Due.search("n(N,s2345678(N)). e(X,X).", "n(z2345678,A),n(A,B),n(B,C),n(C,D),n(D,E),n(E,F),n(F,G).");
         due.same("run", y.run(9), 1);
         due.same("long words", Due.text(y, 6), "s2345678(".repeat(7) + "z2345678" + ")".repeat(7));
