@@ -4,20 +4,41 @@ import java.nio.charset.StandardCharsets;
 final class Due {
     private int checks = 0;
     private int wrong = 0;
+    private int sentences = 0;
+    private int checksBefore = 0;
+    private String sentence = "";
+
+    /** The words of the document that the next checks are for. */
+    void sentence(String words) {
+        endSentence();
+        sentence = words;
+        sentences++;
+        checksBefore = checks;
+    }
+
+    /** A boundary has two sides, so that one check for a sentence is too few. */
+    private void endSentence() {
+        if (sentences > 0 && checks - checksBefore < 2) {
+            tellWrong("only " + (checks - checksBefore) + " checks");
+        }
+    }
+
+    private void tellWrong(String what) {
+        wrong++;
+        System.out.println(what + (sentence.isEmpty() ? "" : "   (\"" + sentence + "\")"));
+    }
 
     void same(String what, long got, long want) {
         checks++;
         if (got != want) {
-            wrong++;
-            System.out.println(what + " answered " + got + ", due is " + want);
+            tellWrong(what + " answered " + got + ", due is " + want);
         }
     }
 
     void same(String what, String got, String want) {
         checks++;
         if (!got.equals(want)) {
-            wrong++;
-            System.out.println(what + " answered \"" + got + "\", due is \"" + want + "\"");
+            tellWrong(what + " answered \"" + got + "\", due is \"" + want + "\"");
         }
     }
 
@@ -37,8 +58,19 @@ final class Due {
         same(what + ": goals()", x.goals(), goals);
     }
 
+    /** What consult answers to the text on a new object. */
+    void consults(String text, int want) {
+        same("consult \"" + text + "\"", consulted(new PrunedSearch(), text), want);
+    }
+
+    /** What ask answers to the text on a new object. */
+    void asks(String text, int want) {
+        same("ask \"" + text + "\"", asked(new PrunedSearch(), text), want);
+    }
+
     void finish() {
-        System.out.println(checks + " checks, " + wrong + " wrong");
+        endSentence();
+        System.out.println((sentences > 0 ? sentences + " sentences, " : "") + checks + " checks, " + wrong + " wrong");
         if (wrong != 0 || checks == 0) {
             System.exit(1);
         }
@@ -118,5 +150,27 @@ final class Due {
             end = x.run(100);
         }
         return all.append(end).toString();
+    }
+
+    /** All that can be seen of an object without changing it, but for its text. */
+    static String shown(PrunedSearch x) {
+        StringBuilder all = new StringBuilder();
+        all.append(x.clauses()).append(' ').append(x.tries()).append(' ').append(x.choices()).append(' ');
+        all.append(x.length()).append(' ').append(x.goals());
+        for (int v = 0; v < 8; v++) {
+            all.append(' ').append(text(x, v));
+        }
+        return all.append('\n').toString();
+    }
+
+    /** What is shown now and by later calls, those that read the text among them. */
+    static String later(PrunedSearch x) {
+        StringBuilder all = new StringBuilder(shown(x));
+        for (int k = 0; k < 5; k++) {
+            all.append(x.run(1)).append(": ").append(shown(x));
+        }
+        all.append("consult ").append(x.consult()).append(": ").append(shown(x));
+        all.append("ask ").append(asked(x, "p(X).")).append(": ").append(answers(x, 1));
+        return all.toString();
     }
 }
