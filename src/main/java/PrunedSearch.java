@@ -530,7 +530,6 @@ public final class PrunedSearch {
                 return false;
             }
             boolean more = !isAt(']');
-            boolean mayHaveRest = more;
             for (int k = 0; k < MOST_TEXT && more; k++) {
                 code.add(LIST);
                 if (!readTerm()) {
@@ -538,7 +537,7 @@ public final class PrunedSearch {
                 }
                 more = accept(',');
             }
-            if (!mayHaveRest || !accept('|')) {
+            if (!accept('|')) {
                 code.add(EMPTY_LIST);
             } else if (!readTerm()) {
                 return false;
@@ -669,8 +668,8 @@ public final class PrunedSearch {
 
         int argument(int cell, int k) {
             int place = cell + 1;
-            for (int j = 0; j < k && place < used; j++) {
-                place += sizes[place];
+            for (int j = 0; j < k; j++) {
+                place += sizeAt(place);
             }
             return place;
         }
@@ -678,10 +677,14 @@ public final class PrunedSearch {
         /** The cell of what stands for the term, by all that is known now. */
         int standing(int cell) {
             int last = cell;
-            for (int k = 0; k < MOST_CELLS && stands[last] != NOTHING; k++) {
-                last = stands[last];
+            for (int k = 0; k < MOST_CELLS && nextStanding(last) != NOTHING; k++) {
+                last = nextStanding(last);
             }
             return last;
+        }
+
+        private int nextStanding(int cell) {
+            return cell >= 0 && cell < used ? stands[cell] : NOTHING;
         }
 
         /** Makes two terms equal, but for circles that this may leave. */
@@ -695,11 +698,11 @@ public final class PrunedSearch {
                 if (a == b) {
                     continue;
                 }
-                if (symbols[a] == LONE_VARIABLE) {
+                if (symbolAt(a) == LONE_VARIABLE) {
                     letStand(a, b);
-                } else if (symbols[b] == LONE_VARIABLE) {
+                } else if (symbolAt(b) == LONE_VARIABLE) {
                     letStand(b, a);
-                } else if (symbols[a] == symbols[b]) {
+                } else if (symbolAt(a) == symbolAt(b)) {
                     letStand(a, b);
                     pushPairs(a, b);
                 } else {
@@ -710,7 +713,7 @@ public final class PrunedSearch {
         }
 
         private void letStand(int cell, int other) {
-            if (changes < MOST_CELLS) {
+            if (changes < MOST_CELLS && cell >= 0 && cell < used) {
                 stands[cell] = other;
                 changed[changes] = cell;
                 changes++;
@@ -718,14 +721,14 @@ public final class PrunedSearch {
         }
 
         private void pushPairs(int a, int b) {
-            int arguments = argumentsOf(symbols[a]);
+            int arguments = argumentsOf(symbolAt(a));
             int inA = a + 1;
             int inB = b + 1;
             for (int k = 0; k < arguments; k++) {
                 push(inA);
                 push(inB);
-                inA += sizes[inA];
-                inB += sizes[inB];
+                inA += sizeAt(inA);
+                inB += sizeAt(inB);
             }
         }
 
@@ -739,20 +742,30 @@ public final class PrunedSearch {
             for (int turn = 0; turn < MANY_TURNS && waitingCount > 0; turn++) {
                 int item = pop();
                 if (item < 0) {
-                    marks[-1 - item] = closed;
+                    mark(-1 - item, closed);
                     continue;
                 }
                 int cell = standing(item);
-                if (marks[cell] == opened) {
+                if (markAt(cell) == opened) {
                     return true;
                 }
-                if (marks[cell] != closed) {
-                    marks[cell] = opened;
+                if (markAt(cell) != closed) {
+                    mark(cell, opened);
                     push(-1 - cell);
                     pushArguments(cell);
                 }
             }
             return false;
+        }
+
+        private void mark(int cell, int mark) {
+            if (cell >= 0 && cell < used) {
+                marks[cell] = mark;
+            }
+        }
+
+        private int markAt(int cell) {
+            return cell >= 0 && cell < used ? marks[cell] : 0;
         }
 
         /** The symbols of a term; more than most as soon as they are more. */
@@ -768,11 +781,11 @@ public final class PrunedSearch {
         }
 
         private void pushArguments(int cell) {
-            int arguments = argumentsOf(symbols[cell]);
+            int arguments = argumentsOf(symbolAt(cell));
             int place = cell + 1;
             for (int k = 0; k < arguments; k++) {
                 push(place);
-                place += sizes[place];
+                place += sizeAt(place);
             }
         }
 

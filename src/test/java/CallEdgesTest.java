@@ -15,39 +15,20 @@ final class CallEdgesTest {
 
     public static void main(String[] args) {
         CallEdgesTest test = new CallEdgesTest();
-        test.mostCalls();
-        test.refusedChangesNothing();
-        test.newObject();
-        test.consultPutsBehind();
-        test.consultAnswers();
-        test.consultPutsNothing();
-        test.consultEmptiesTheText();
-        test.consultEndsTheSearch();
-        test.askBegins();
-        test.askAnswers();
-        test.askWrongOrMuch();
-        test.askEmptiesTheText();
-        test.runStops();
-        test.runAnswers();
-        test.endedAnswersTheSame();
-        test.runWithoutSearch();
-        test.runOutOfRange();
-        test.answerNumbers();
-        test.answerOnlyThere();
-        test.answerText();
-        test.answerLists();
-        test.answerFree();
-        test.answerPlaces();
-        test.answerWithoutBlanks();
-        test.counted("The number of clauses.", 0);
-        test.counted("The tries of the search; 0 when there is none.", 1);
-        test.counted("How many choices the search has; 0 when there is none.", 2);
-        test.counted("The length of the branch; 0 when there is no search.", 3);
-        test.counted("How many goals are left in the branch; 0 when it failed, or there is no search.", 4);
-        test.forgetTakesAway();
-        test.forgetEndsTheSearch();
-        test.forgetLeavesTheText();
-        test.due.finish();
+        test.due.each(
+            test::mostCalls, test::refusedChangesNothing, test::newObject, test::consultPutsBehind,
+            test::consultAnswers, test::consultPutsNothing, test::consultEmptiesTheText,
+            test::consultEndsTheSearch, test::askBegins, test::askAnswers, test::askWrongOrMuch,
+            test::askEmptiesTheText, test::runStops, test::runAnswers, test::endedAnswersTheSame,
+            test::runWithoutSearch, test::runOutOfRange, test::answerNumbers, test::answerOnlyThere,
+            test::answerText, test::answerLists, test::answerFree, test::answerPlaces,
+            test::answerWithoutBlanks,
+            () -> test.counted("The number of clauses.", 0),
+            () -> test.counted("The tries of the search; 0 when there is none.", 1),
+            () -> test.counted("How many choices the search has; 0 when there is none.", 2),
+            () -> test.counted("The length of the branch; 0 when there is no search.", 3),
+            () -> test.counted("How many goals are left in the branch; 0 when it failed, or there is no search.", 4),
+            test::forgetTakesAway, test::forgetEndsTheSearch, test::forgetLeavesTheText);
     }
 
     /** Objects in all the states that differ, by name, those with a search last. */
@@ -68,10 +49,10 @@ final class CallEdgesTest {
         states.put(SEARCH + "asked", () -> typed(after(0, TWO, "p(X),p(Y)."), "p(c)."));
         states.put(SEARCH + "asked, with a full text", () -> typed(after(0, TWO, "p(X)."), "p(c)." + " ".repeat(235)));
         states.put(SEARCH + "going", () -> typed(after(1, TWO, "p(X),p(Y)."), "p(c)."));
-        states.put(SEARCH + "failed", () -> typed(after(2, TWO, "p(X),q(X)."), "p(c)."));
+        states.put(SEARCH + "failed", () -> typed(after(2, TWO, "p(X),q(X),p(Y)."), "p(c)."));
         states.put(SEARCH + "at an answer", () -> typed(after(2, TWO, "p(X),p(Y)."), "p(c)."));
         states.put(SEARCH + "at the last answer", () -> typed(after(1, TWO, "p(a)."), "p(c)."));
-        states.put(SEARCH + "EMPTY", () -> typed(after(1, TWO, "p(c)."), "p(c)."));
+        states.put(SEARCH + "EMPTY", () -> typed(after(1, TWO, "p(c),p(a)."), "p(c)."));
         states.put(SEARCH + "DEEP", () -> typed(after(61, "p(X):-p(X). p(a).", "p(X)."), "p(c)."));
         states.put(SEARCH + "LARGE", () -> typed(after(50, "p(X):-p(f(X,X)).", "p(X)."), "p(c)."));
         return states;
@@ -275,11 +256,12 @@ final class CallEdgesTest {
     private void askBegins() {
         due.sentence("Reads the text as a question and begins a search for it, in place of another one.");
         for (int steps = 0; steps <= 3; steps++) {
-            PrunedSearch x = after(steps, TWO, "p(X).");
-            due.same("ask", Due.asked(x, "p(b),p(Y)."), 1);
+            PrunedSearch x = after(steps, TWO + "r(z). r(y).", "p(X).");
+            due.same("the other one", Due.text(x, 0), steps == 1 ? "a" : steps == 2 ? "b" : "");
+            due.same("ask", Due.asked(x, "p(b),r(Y)."), 1);
             due.counts("the new one after " + steps, x, 0, 0, 0, 2);
             due.same("no answer yet", x.answer(0, 0), 0);
-            due.same("its answers after " + steps, Due.answers(x, 1), "a ; b ; 0");
+            due.same("its answers after " + steps, Due.answers(x, 1), "z ; y ; 0");
             due.same("its tries after " + steps, x.tries(), 3);
         }
         PrunedSearch deep = after(61, "p(X):-p(X). q(a).", "p(X).");
@@ -461,8 +443,15 @@ final class CallEdgesTest {
             due.same("place " + i, x.answer(0, i), 0);
             due.same("place " + i, x.answer(1, i), 0);
         }
-        PrunedSearch none = after(1, "p.", "p.");
-        due.same("no VARIABLE at all", none.answer(0, 0), 0);
+        Due.asked(x, "e(Z,f(a)).");
+        due.same("run", x.run(1), 1);
+        due.same("VARIABLE 0", Due.text(x, 0), "f(a)");
+        for (int v = 1; v < 9; v++) {
+            due.same("no VARIABLE " + v + " any more", Due.text(x, v), "");
+        }
+        Due.asked(x, "e(a,a).");
+        due.same("run", x.run(1), 1);
+        due.same("no VARIABLE at all", Due.text(x, 0), "");
         PrunedSearch back = after(1, TWO, "p(X),true.");
         due.same("before the answer", back.answer(0, 0), 0);
         back.run(1);
@@ -494,6 +483,21 @@ final class CallEdgesTest {
         told("f(g(a),h(i(b),c))", "f(g(a),h(i(b),c))");
         String open = "f2345678(".repeat(14);
         told(open + "a2345678" + ")".repeat(14), open + "a2345678" + ")".repeat(14));
+        longest(9, true);
+        longest(10, false);
+    }
+
+    /** One name of 8 letters in another, 110 of them and so many more, and one that is innermost. */
+    private void longest(int more, boolean fits) {
+        String name = "s2345678(";
+        PrunedSearch x = Due.with("n(N," + name.repeat(11) + "N" + ")".repeat(11) + ").");
+        due.same("j", Due.consulted(x, "m(A,B):-n(C,B),n(D,C),n(E,D),n(F,E),n(A,F). k(A,B):-m(C,B),m(A,C). j(X):-k(A,X),z(A)."), 3);
+        due.same("z", Due.consulted(x, "z(" + name.repeat(more) + "z2345678" + ")".repeat(more) + ")."), 1);
+        Due.asked(x, "j(X).");
+        due.same(111 + more + " symbols", x.run(100), fits ? 1 : 4);
+        String text = fits ? name.repeat(110 + more) + "z2345678" + ")".repeat(110 + more) : "";
+        int from = Math.max(text.length() - 300, 0);
+        due.same("the end of its text", Due.text(x, 0, from), text.substring(from));
     }
 
     private void answerLists() {

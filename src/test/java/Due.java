@@ -58,6 +58,19 @@ final class Due {
         same(what + ": goals()", x.goals(), goals);
     }
 
+    /** Runs the tests of the sentences, so that one that breaks off hides none of the others. */
+    void each(Runnable... tests) {
+        for (Runnable test : tests) {
+            try {
+                test.run();
+            } catch (RuntimeException e) {
+                checks++;
+                tellWrong("broken off by " + e);
+            }
+        }
+        finish();
+    }
+
     /** What consult answers to the text on a new object. */
     void consults(String text, int want) {
         same("consult \"" + text + "\"", consulted(new PrunedSearch(), text), want);
@@ -129,9 +142,14 @@ final class Due {
 
     /** The text for VARIABLE v. */
     static String text(PrunedSearch x, int v) {
+        return text(x, v, 0);
+    }
+
+    /** The text for VARIABLE v from a place on: the longest ones have more places than there are calls. */
+    static String text(PrunedSearch x, int v, int from) {
         StringBuilder text = new StringBuilder();
-        for (int i = 0; x.answer(v, i) != 0; i++) {
-            text.append(x.answer(v, i));
+        for (char c = x.answer(v, from); c != 0; c = x.answer(v, from + text.length())) {
+            text.append(c);
         }
         return text.toString();
     }

@@ -6,26 +6,12 @@ final class MuchEdgesTest {
 
     public static void main(String[] args) {
         MuchEdgesTest test = new MuchEdgesTest();
-        test.numberOfArguments();
-        test.emptyList();
-        test.lists();
-        test.withoutRest();
-        test.equalVariables();
-        test.loneVariables();
-        test.symbolsOfTerms();
-        test.symbolsOfLists();
-        test.symbolsOfCuts();
-        test.mostSymbols();
-        test.mostVariables();
-        test.loneVariablesCount();
-        test.mostGoals();
-        test.mostArguments();
-        test.mostClauses();
-        test.mostNames();
-        test.whateverTheirArguments();
-        test.listsAreNoNames();
-        test.textsReadWithoutFault();
-        test.due.finish();
+        test.due.each(
+            test::numberOfArguments, test::emptyList, test::lists, test::withoutRest, test::equalVariables,
+            test::loneVariables, test::symbolsOfTerms, test::symbolsOfLists, test::symbolsOfCuts,
+            test::mostSymbols, test::mostVariables, test::loneVariablesCount, test::mostGoals,
+            test::mostArguments, test::anyOfThem, test::mostClauses, test::mostNames, test::whateverTheirArguments,
+            test::listsAreNoNames, test::textsReadWithoutFault);
     }
 
     /** The answers to the question, with e(X,X) as the clause. */
@@ -247,6 +233,30 @@ final class MuchEdgesTest {
         fits("p([a,b,c,d,e|f]).", true);
     }
 
+    /** One that is too much makes the whole text so, whatever stands before it and behind it. */
+    private void anyOfThem() {
+        due.sentence("TOO MUCH is a clause or question with more than 40 symbols, more than 8 variables .. more than 8 goals, or a name with more than 4 arguments");
+        String[] much = {"p(" + list(19) + ",a)", "p([" + variables(9) + "])", "p([_,_,_,_,_,_,_,_,_])", "p:-!,!,!,!,!,!,!,!,!", "p(a,b,c,d,e)"};
+        String[] rights = {"q", "q(X)", "q(_)", "q:-r(X,_),!", "q(a,b,c,d)", "q(" + list(19) + ")"};
+        for (String one : much) {
+            due.consults(one + ".", MUCH);
+            for (String other : rights) {
+                due.consults(other + ".", 1);
+                due.consults(one + "." + other + ".", MUCH);
+                due.consults(other + "." + one + ".", MUCH);
+                due.consults(other + "." + one + "." + other + ".", MUCH);
+            }
+        }
+        String[] behind = {"q", "!", "q(X)", "q(_)", "q(X,Y,_)", "q([a])"};
+        for (String goal : behind) {
+            fitsAsQuestion("p(a,b,c,d)," + goal + ".", true);
+            fitsAsQuestion("p(a,b,c,d,e)," + goal + ".", false);
+            fitsAsQuestion(goal + ",p(a,b,c,d,e)," + goal + ".", false);
+            fitsAsQuestion("p([" + variables(9) + "])," + goal + ".", false);
+            fitsAsQuestion("!,!,!,!,!,!,!,!," + goal + ".", false);
+        }
+    }
+
     private void mostClauses() {
         due.sentence("a text that would bring the number of clauses beyond 24");
         for (int there = 0; there <= 24; there++) {
@@ -329,6 +339,13 @@ final class MuchEdgesTest {
         due.same("a question's names count", Due.asked(z, "m1(m2)."), 0);
         due.same("so there are 32", Due.consulted(z, "m3."), MUCH);
         due.same("which stay known", Due.consulted(z, "m1:-m2."), 1);
+        String[] questions = {"m1(m2).", "m1(m2,X)."};
+        for (String question : questions) {
+            PrunedSearch y = named(30);
+            due.same("names of " + question, Due.asked(y, question) >= 0 ? 1 : 0, 1);
+            due.same("a refused text", Due.consulted(y, "k1(k2"), -6);
+            due.same("takes none of them away", Due.consulted(y, "k1:-k2."), MUCH);
+        }
         PrunedSearch w = named(32);
         due.same("33", Due.consulted(w, "m1."), MUCH);
         due.same("33 again", Due.consulted(w, "m1."), MUCH);

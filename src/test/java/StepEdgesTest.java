@@ -9,39 +9,14 @@ final class StepEdgesTest {
 
     public static void main(String[] args) {
         StepEdgesTest test = new StepEdgesTest();
-        test.atFirst();
-        test.firstGoalTaken();
-        test.cut();
-        test.isTrue();
-        test.isFail();
-        test.candidatesInOrder();
-        test.sameNameAndNumber();
-        test.firstArguments();
-        test.whatStandsNow();
-        test.noCandidate();
-        test.deep();
-        test.deepPutsNothing();
-        test.several();
-        test.branchOfTheChoice();
-        test.lastOfTheChoices();
-        test.noneLeft();
-        test.lengthAndTries();
-        test.newVariables();
-        test.mostGeneral();
-        test.noCircles();
-        test.cannotBeEqual();
-        test.bodyFirst();
-        test.cutOfTheBody();
-        test.cutWithoutChoice();
-        test.large();
-        test.symbolsOfGoals();
-        test.symbolsOfVariables();
-        test.nothingStands();
-        test.largeWithoutGoals();
-        test.answer();
-        test.empty();
-        test.emptyWithoutStep();
-        test.due.finish();
+        test.due.each(
+            test::atFirst, test::firstGoalTaken, test::cut, test::isTrue, test::isFail,
+            test::candidatesInOrder, test::sameNameAndNumber, test::firstArguments, test::whatStandsNow,
+            test::noCandidate, test::deep, test::deepPutsNothing, test::several, test::resolvedWithTheFirst, test::branchOfTheChoice, test::resolvedWithThatClause,
+            test::lastOfTheChoices, test::noneLeft, test::lengthAndTries, test::newVariables,
+            test::mostGeneral, test::noCircles, test::cannotBeEqual, test::bodyFirst, test::cutOfTheBody,
+            test::cutWithoutChoice, test::large, test::symbolsOfGoals, test::symbolsOfVariables,
+            test::nothingStands, test::largeWithoutGoals, test::answer, test::empty, test::emptyWithoutStep);
     }
 
     /** Makes so many steps, all in calls that answer 2. */
@@ -262,6 +237,46 @@ final class StepEdgesTest {
         due.counts("behind the others", after(3, counted[1], "p(X),p(Y),p(Z),true."), 3, 3, 3, 1);
     }
 
+    /** The largest branches: 60 tries, each with a clause of 40 symbols or of 8 goals. */
+    private void resolvedWithTheFirst() {
+        due.sentence("The branch is RESOLVED with the first one.");
+        PrunedSearch first = Due.search("p(c). p(a). p(b).", "p(X).");
+        due.same("run", first.run(1), 1);
+        due.same("the first one", Due.text(first, 0), "c");
+        PrunedSearch x = Due.with("w(" + LIST + ").");
+        due.same("u", Due.consulted(x, "u(" + ReadingTest.list(11) + "):-" + "w(_),".repeat(7) + "w(_)."), 1);
+        due.same("t", Due.consulted(x, "t(" + ReadingTest.list(13) + "):-u(_),u(_),u(_),u(_),u(_),u(_)."), 1);
+        due.same("ask", Due.asked(x, "true,true,t(" + ReadingTest.list(13) + "),w(_),w(_),w(_),w(_),w(X)."), 1);
+        due.same("60 clauses of 40 symbols", x.run(100), 1);
+        due.counts("60 clauses of 40 symbols", x, 60, 0, 60, 0);
+        due.same("the last one is whole", Due.text(x, 0), LIST);
+        PrunedSearch y = Due.search("k:-true,true,true,true,true,true,true,k.", "!,!,!,!,!,!,!,k.");
+        for (int k = 0; k < 60; k++) {
+            due.same("clause " + k + " of 8 goals", y.run(8), 2);
+            due.counts("clause " + k + " of 8 goals", y, k + 1, 0, k + 1, 8);
+        }
+        due.same("deep", y.run(8), 3);
+    }
+
+    /** After thousands of tries a branch is still as it was. */
+    private void resolvedWithThatClause() {
+        due.sentence("and the branch is resolved with that clause");
+        PrunedSearch x = Due.search("p(1).p(2).p(3).p(4).p(5).p(6).p(7).p(8).p(9).q:-true,true,true,true,true,true,true,true.", "p(X),p(Y),p(Z),q,fail.");
+        int calls = 1;
+        for (int end = x.run(100); end == 2 && calls < 200; end = x.run(100)) {
+            calls++;
+        }
+        due.same("the end", x.run(1), 0);
+        due.counts("the end", x, 9 + 81 + 729 + 729, 0, 4, 0);
+        // Every q takes 10 steps with its fail.
+        due.same("calls of 100 steps", calls, (9 + 81 + 729 + 7290 + 99) / 100);
+        PrunedSearch y = Due.search("p(" + LIST + "). p(f(" + ReadingTest.list(18) + ")). p(a).", "p(A),p(_),p(_),fail.");
+        due.same("all of them fail", Due.answers(y, 1), "0");
+        due.same("tries", y.tries(), 3 + 9 + 27);
+        PrunedSearch z = Due.search("p(a). p(b). p(c).", "p(X).");
+        due.same("each clause once", Due.answers(z, 1), "a ; b ; c ; 0");
+    }
+
     private void branchOfTheChoice() {
         due.sentence("with the last of the choices: the branch becomes that of the choice, its first goal is taken away");
         String clauses = "p(a,b). p(X,X). p(c,d):-true,true. q(b,b). q(d,_).";
@@ -279,6 +294,9 @@ final class StepEdgesTest {
         due.same("nothing of the other branch", Due.text(x, 0) + Due.text(x, 1), "dd");
         due.same("p(c,d)", x.run(1), 2);
         due.counts("p(c,d)", x, 5, 0, 1, 4);
+        // The second clause of c is longer, so that what was built behind the first does not come again.
+        String longer = "c(1). c(2):-true,true. d(1,a). d(2,b).";
+        due.same("nothing stands for X again", Due.answers(Due.search(longer, "c(Y),d(Y,X)."), 2), "1 a ; 2 b ; 0");
     }
 
     private void lastOfTheChoices() {
@@ -475,6 +493,8 @@ final class StepEdgesTest {
         String clauses = "w(" + LIST + "). v(_,_,_). e(X,X).";
         due.same("three of 39 and three of 1", Due.search(clauses, "v(D,E,F),w(A),w(B),w(C).").run(9), 1);
         due.same("three of 39 and none alone", Due.search(clauses, "v(D,E,_),w(A),w(B),w(C).").run(9), 1);
+        due.same("three of 39 and one of 3", Due.search(clauses, "e(D,f(g(a))),w(A),w(B),w(C).").run(9), 1);
+        due.same("three of 39 and one of 4", Due.search(clauses, "e(D,f(g(h(a)))),w(A),w(B),w(C).").run(9), 4);
         due.same("four of 39", Due.search(clauses, "w(A),w(B),w(C),w(D).").run(9), 4);
         due.same("four of 39, one alone", Due.search(clauses, "w(_),w(B),w(C),w(D).").run(9), 1);
         due.same("four of 39, all alone", Due.search(clauses, "w(_),w(_),w(_),w(_).").run(9), 1);

@@ -7,20 +7,11 @@ final class TextEdgesTest {
 
     public static void main(String[] args) {
         TextEdgesTest test = new TextEdgesTest();
-        test.mostCharacters();
-        test.theseAlone();
-        test.longTokens();
-        test.longestWord();
-        test.namesAndVariables();
-        test.signs();
-        test.blanks();
-        test.lowestBitsFirst();
-        test.upToTheFirstZero();
-        test.eightAtMost();
-        test.answersTrue();
-        test.noneOfTheCharacters();
-        test.moreThan240();
-        test.due.finish();
+        test.due.each(
+            test::mostCharacters, test::theseAlone, test::longTokens, test::longestWord,
+            test::namesAndVariables, test::signs, test::blanks, test::lowestBitsFirst,
+            test::upToTheFirstZero, test::eightAtMost, test::answersTrue, test::noneOfTheCharacters,
+            test::moreThan240);
     }
 
     /** A new object with so many blanks. */

@@ -4,26 +4,12 @@ final class WrongEdgesTest {
 
     public static void main(String[] args) {
         WrongEdgesTest test = new WrongEdgesTest();
-        test.terms();
-        test.oneOrMoreArguments();
-        test.lists();
-        test.goals();
-        test.clauses();
-        test.questions();
-        test.noRowOfClauses();
-        test.noQuestion();
-        test.firstCharacter();
-        test.firstToken();
-        test.firstStrangeCharacter();
-        test.nothingGoesOn();
-        test.endsTooEarly();
-        test.colonAlone();
-        test.dashAlone();
-        test.longWord();
-        test.sixteenOpen();
-        test.openAtTheSameTime();
-        test.placeOfTheSixteenth();
-        test.due.finish();
+        test.due.each(
+            test::terms, test::oneOrMoreArguments, test::lists, test::goals, test::clauses, test::questions,
+            test::noRowOfClauses, test::noQuestion, test::firstCharacter, test::firstToken,
+            test::firstStrangeCharacter, test::nothingGoesOn, test::endsTooEarly, test::colonAlone,
+            test::dashAlone, test::longWord, test::sixteenOpen, test::openAtTheSameTime,
+            test::placeOfTheSixteenth);
     }
 
     /** The same answer as a clause and as a question, 1 and 0 when it is right. */
@@ -322,6 +308,11 @@ final class WrongEdgesTest {
         String fourteen = "f(".repeat(14) + "a" + ")".repeat(14);
         due.consults("p(" + fourteen + "," + fourteen + ").", 1);
         due.consults("p(" + fourteen + ",[" + fourteen + "]).", -1 - 47 - 27);
+        PrunedSearch x = new PrunedSearch();
+        due.same("fifteen stay open", Due.consulted(x, "p(" + "f(".repeat(14)), -31);
+        due.same("but not in the next text", Due.consulted(x, "p(" + fourteen + ")."), 1);
+        due.same("a sixteenth", Due.asked(x, "p(" + "f(".repeat(15)), -32);
+        due.same("the next text again", Due.asked(x, "p(" + fourteen + ")."), 0);
     }
 
     private void placeOfTheSixteenth() {
