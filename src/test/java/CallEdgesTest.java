@@ -536,8 +536,12 @@ final class CallEdgesTest {
         PrunedSearch w = after(2, "l([_,_,_,_,_,_|T],T).", "l(X,Y),l(Y,[]).");
         due.same("9, 10, 11", Due.text(w, 0), "[_0,_1,_2,_3,_4,_5,_6,_7,_8,_9,_10,_11]");
         due.same("9, 10, 11", Due.text(w, 1), "[_6,_7,_8,_9,_10,_11]");
-        PrunedSearch next = after(2, "p(_). p(_).", "p(X).");
-        due.same("counted anew at the next answer", Due.text(next, 0), "_0");
+        PrunedSearch again = after(1, "e(X,X).", "e(X,f(A,A,B,A)).");
+        due.same("one that stands there again counts once", Due.text(again, 0), "f(_0,_0,_1,_0)");
+        PrunedSearch next = after(1, "p(_). p(f(_,_)).", "p(X).");
+        due.same("at the first answer", Due.text(next, 0), "_0");
+        due.same("run", next.run(1), 1);
+        due.same("counted anew at the next answer", Due.text(next, 0), "f(_0,_1)");
     }
 
     private void answerPlaces() {
